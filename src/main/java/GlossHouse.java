@@ -49,9 +49,6 @@ public final class GlossHouse {
     private static final int TEXT_SIGNS_FROM = 20;
     private static final int RELEASES_FROM = 9;
 
-    /** Dearer than any way can be, and far enough from the end of long to add to. */
-    private static final long NEVER = 1L << 60;
-
     private final Row draft;
     private final Ruler ruler;
     private final Matcher matcher;
@@ -1029,8 +1026,8 @@ public final class GlossHouse {
     /**
      * Finds THE MATCH. What a way to match is worth is one long, the less the better: its cost stands
      * in the high bits, and below it a digit for each PIECE of THE NEXT one, the first the highest,
-     * that tells what it was given. So the least of these sums is the least cost and, of several, the
-     * one that the document wants; and as it is a sum, it can be put together PIECE by PIECE.
+     * that tells what it was given. So the least of these is the least cost and, of several, the one
+     * that the document wants; and as they are sums, they can be put together PIECE by PIECE.
      */
     private static final class Matcher {
         private static final int COST_SHIFT = 32;
@@ -1038,17 +1035,16 @@ public final class GlossHouse {
         private static final int DIGIT = 15;
         private static final int GIVEN_NONE = MOST_PIECES;
 
-        /** By the set of the PIECES of THE SOURCE that were given already. */
+        /** By the set of the PIECES of THE SOURCE that may be given. */
         private final long[] best = new long[SETS_OF_PIECES];
         private final long[] worth = new long[MOST_PIECES];
         private long found;
 
         /** What THE MATCH costs. */
         int match(Book source, Book next, Ruler ruler) {
-            int sets = 1 << source.count();
-            best[0] = 0;
-            for (int set = 1; set < sets; set++) {
-                best[set] = NEVER;
+            int all = (1 << source.count()) - 1;
+            for (int set = 0; set <= all; set++) {
+                best[set] = 0;
             }
             for (int i = 0; i < next.count(); i++) {
                 Piece piece = next.at(i);
@@ -1058,10 +1054,7 @@ public final class GlossHouse {
                     giveOne(source.count(), without);
                 }
             }
-            found = best[0];
-            for (int set = 1; set < sets; set++) {
-                found = Math.min(found, best[set]);
-            }
+            found = best[all];
             return (int) (found >> COST_SHIFT);
         }
 
@@ -1119,7 +1112,7 @@ public final class GlossHouse {
         private final int[] load = new int[SETS_OF_PIECES];
         /** By set of PIECES: a 1 for the digit of each. */
         private final int[] ones = new int[SETS_OF_PIECES];
-        /** By the set of the PIECES that have a HAND already. */
+        /** By the set of the PIECES that are planned, with the HANDS seen so far. */
         private final long[] best = new long[SETS_OF_PIECES];
         private int needy;
         private long found;
@@ -1142,16 +1135,15 @@ public final class GlossHouse {
 
         void solve(Hands hands, int tongue) {
             measureSets();
-            best[0] = 0;
-            for (int set = 1; set < SETS_OF_PIECES; set++) {
-                best[set] = NEVER;
+            for (int set = 0; set < SETS_OF_PIECES; set++) {
+                best[set] = ((long) Integer.bitCount(set) << LEFT_SHIFT) + NO_HAND * ones[set];
             }
             for (int hand = 0; hand < hands.count(); hand++) {
                 if (hands.knows(hand, tongue)) {
                     giveTo(hand, hands.hoursOf(hand), hands.rateOf(hand));
                 }
             }
-            leaveTheRest();
+            found = best[needy];
         }
 
         int needing() {
@@ -1196,14 +1188,6 @@ public final class GlossHouse {
                     }
                 }
                 best[set] = least;
-            }
-        }
-
-        private void leaveTheRest() {
-            found = best[needy];
-            for (int rest = needy; rest > 0; rest = (rest - 1) & needy) {
-                long worth = ((long) Integer.bitCount(rest) << LEFT_SHIFT) + NO_HAND * ones[rest];
-                found = Math.min(found, best[needy ^ rest] + worth);
             }
         }
 

@@ -8,6 +8,7 @@ public final class MemoryTest {
         memory();
         eldestGoes();
         keepAndBack();
+        memoryComesBack();
         whatIsNotKept();
         due.end();
     }
@@ -139,6 +140,32 @@ public final class MemoryTest {
         x.turn();
         x.back();
         due.is("the latest comes back", x.of(0, 10), 70);
+    }
+
+    private static void memoryComesBack() {
+        GlossHouse x = Due.house(Due.row(1, 2), Due.row(3));
+        Due.twoHands(x);
+        Due.reviewed(x, 0, 0, 200);
+        Due.reviewed(x, 1, 2, 201, 202);
+        x.keep();
+        for (int i = 0; i < 20; i++) {
+            Due.reviewed(x, 0, 1, 210 + i);
+        }
+        due.is("what was kept went", x.memory(0, 20), 210);
+        for (int again = 0; again < 2; again++) {
+            x.back();
+            due.is("many(5)", x.many(5), 2);
+            due.is("the eldest's tongue", x.memory(0, 0), 0);
+            due.is("the eldest's piece", x.memory(0, 11), 2);
+            due.is("the eldest's text", x.memory(0, 20), 200);
+            due.is("the youngest's tongue", x.memory(1, 0), 2);
+            due.is("the youngest's piece", x.memory(1, 10), 3);
+            due.is("the youngest's text", x.memory(1, 21), 202);
+            due.is("no more", x.memory(2, 0), GlossHouse.NUMBER);
+            due.is("the nearest of a tongue that came later", x.nearest(0, 1, 0), GlossHouse.NONE);
+            Due.reviewed(x, 0, 0, 240);
+            Due.reviewed(x, 1, 2, 241);
+        }
     }
 
     private static void whatIsNotKept() {

@@ -73,6 +73,10 @@ final class Model {
         return 0 <= hand && hand < hands.size();
     }
 
+    boolean knows(int hand, int tongue) {
+        return hasHand(hand) && tongue(tongue) && hands.get(hand).knows(tongue);
+    }
+
     static int distance(List<Integer> a, List<Integer> b) {
         int[][] d = new int[a.size() + 1][b.size() + 1];
         for (int i = 0; i <= a.size(); i++) {

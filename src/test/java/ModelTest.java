@@ -45,7 +45,7 @@ public final class ModelTest {
         if (random.nextInt(4) > 0) {
             begin();
         }
-        for (int i = 0; i < CALLS - 60 && !wrong; ) {
+        for (int i = 0; i < CALLS - 90 && !wrong; ) {
             i += step();
         }
     }
@@ -66,14 +66,14 @@ public final class ModelTest {
         if (which < 3) {
             return newSource();
         }
-        if (which < 25) {
-            return newText();
+        if (which < 15) {
+            return newText(piece(), tongue(), hand());
+        }
+        if (which < 30) {
+            return newReviewed();
         }
         if (which < 40) {
-            int p = piece();
-            int t = tongue();
-            int h = hand();
-            check("review", house.review(p, t, h), model.review(p, t, h), p, t, h);
+            review(piece(), tongue(), hand());
             return 1;
         }
         if (which < 55) {
@@ -85,38 +85,62 @@ public final class ModelTest {
     }
 
     private int newSource() {
-        int calls = 1;
+        check("scrap", house.scrap(), model.scrap());
+        check("drop", house.drop(), model.drop());
+        int calls = 3;
         for (int i = 1 + random.nextInt(8); i > 0; i--) {
-            for (int j = 1 + random.nextInt(longest); j > 0; j--) {
-                int s = random.nextInt(6) == 0 ? 100 + random.nextInt(2) : random.nextInt(words + 1);
-                check("sign", house.sign(s), model.sign(s), s);
-                calls++;
+            int old = random.nextBoolean() && model.many(0) > 0 ? random.nextInt(model.many(0)) : -1;
+            int size = old >= 0 ? model.of(old, 1) : 1 + random.nextInt(longest);
+            for (int j = 0; j < size; j++) {
+                boolean same = old >= 0 && random.nextInt(10) > 0;
+                sayAndSign(same ? model.of(old, 10 + j)
+                        : random.nextInt(6) == 0 ? 100 + random.nextInt(2) : random.nextInt(words + 1));
             }
             int kind = random.nextInt(8) == 0 ? 1 : random.nextInt(3) == 0 ? 2 : 0;
             check("piece", house.piece(kind), model.piece(kind), kind);
-            calls++;
+            calls += size + 1;
         }
         check("turn", house.turn(), model.turn());
         return calls;
     }
 
-    /** Often one without a fault of holes: with the same holes as its piece. */
-    private int newText() {
+    /** Written by one hand that knows the tongue, if there are such, and reviewed by another. */
+    private int newReviewed() {
         int p = piece();
         int t = tongue();
-        int h = hand();
+        int writer = hand();
+        int reviewer = hand();
+        for (int tries = 0; tries < 5 && (writer == reviewer || !model.knows(writer, t) || !model.knows(reviewer, t));
+                tries++) {
+            writer = hand();
+            reviewer = hand();
+        }
+        int calls = newText(p, t, writer);
+        review(p, t, reviewer);
+        return calls + 1;
+    }
+
+    private void review(int p, int t, int h) {
+        check("review", house.review(p, t, h), model.review(p, t, h), p, t, h);
+    }
+
+    private void sayAndSign(int s) {
+        check("sign", house.sign(s), model.sign(s), s);
+    }
+
+    /** Often one without a fault of holes: with the same holes as its piece. */
+    private int newText(int p, int t, int h) {
         check("scrap", house.scrap(), model.scrap());
         int calls = 2;
         for (int i = 0; i < model.of(p, 1) && random.nextInt(12) > 0; i++) {
             int s = model.of(p, 10 + i);
             if (s >= 100) {
-                check("sign", house.sign(s), model.sign(s), s);
+                sayAndSign(s);
                 calls++;
             }
         }
-        for (int i = random.nextInt(4); i > 0; i--) {
-            int s = 200 + random.nextInt(3);
-            check("sign", house.sign(s), model.sign(s), s);
+        for (int i = random.nextInt(5); i > 0; i--) {
+            sayAndSign(200 + random.nextInt(3));
             calls++;
         }
         check("write", house.write(p, t, h), model.write(p, t, h), p, t, h);
@@ -157,18 +181,18 @@ public final class ModelTest {
         int b;
         int c;
         switch (which) {
-            case 0 -> check("of", house.of(a = piece(), b = small(20)), model.of(a, b), a, b);
+            case 0 -> check("of", house.of(a = piece(), b = what(18)), model.of(a, b), a, b);
             case 1 -> check("far", house.far(a = piece(), b = piece()), model.far(a, b), a, b);
             case 2 -> check("from", house.from(a = piece()), model.from(a), a);
             case 3 -> check("story", house.story(a = piece()), model.story(a), a);
-            case 4 -> check("text", house.text(a = piece(), b = tongue(), c = small(22)),
+            case 4 -> check("text", house.text(a = piece(), b = tongue(), c = what(20)),
                     model.text(a, b, c), a, b, c);
             case 5 -> check("text", house.text(a = piece(), b = tongue(), c = small(3)),
                     model.text(a, b, c), a, b, c);
             case 6 -> check("fault", house.fault(a = piece(), b = tongue()), model.fault(a, b), a, b);
             case 7 -> check("nearest", house.nearest(a = piece(), b = tongue(), c = small(3)),
                     model.nearest(a, b, c), a, b, c);
-            case 8, 9 -> check("memory", house.memory(a = small(21), b = small(32)), model.memory(a, b), a, b);
+            case 8, 9 -> check("memory", house.memory(a = entry(), b = small(32)), model.memory(a, b), a, b);
             case 10 -> check("effort", house.effort(a = piece(), b = tongue()), model.effort(a, b), a, b);
             case 11 -> check("plan", house.plan(a = tongue(), b = piece()), model.plan(a, b), a, b);
             case 12 -> check("planned", house.planned(a = tongue(), b = small(3)), model.planned(a, b), a, b);
@@ -181,6 +205,15 @@ public final class ModelTest {
     private int small(int n) {
         int which = random.nextInt(40);
         return which == 0 ? ODD[random.nextInt(ODD.length)] : random.nextInt(n + 1);
+    }
+
+    /** Mostly such a number as asks for a sign. */
+    private int what(int n) {
+        return random.nextBoolean() ? small(n) : 10 + random.nextInt(n - 9);
+    }
+
+    private int entry() {
+        return random.nextInt(12) == 0 ? small(20) : random.nextInt(Math.max(1, model.many(5)));
     }
 
     private int piece() {
