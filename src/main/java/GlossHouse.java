@@ -601,20 +601,16 @@ public final class GlossHouse {
                 line[j] = j;
             }
             for (int i = 1; i <= one.size(); i++) {
-                nextLine(i, one.at(i - 1), two);
+                int behind = line[0];
+                line[0] = i;
+                for (int j = 1; j <= two.size(); j++) {
+                    int above = line[j];
+                    int changed = one.at(i - 1) == two.at(j - 1) ? behind : behind + 1;
+                    line[j] = Math.min(changed, Math.min(above, line[j - 1]) + 1);
+                    behind = above;
+                }
             }
             return line[two.size()];
-        }
-
-        private void nextLine(int i, int sign, Row two) {
-            int behind = line[0];
-            line[0] = i;
-            for (int j = 1; j <= two.size(); j++) {
-                int above = line[j];
-                int changed = sign == two.at(j - 1) ? behind : behind + 1;
-                line[j] = Math.min(changed, Math.min(above, line[j - 1]) + 1);
-                behind = above;
-            }
         }
     }
 

@@ -9,6 +9,7 @@ public final class MemoryTest {
         eldestGoes();
         keepAndBack();
         memoryComesBack();
+        fullHouseComesBack();
         whatIsNotKept();
         due.end();
     }
@@ -165,6 +166,34 @@ public final class MemoryTest {
             due.is("the nearest of a tongue that came later", x.nearest(0, 1, 0), GlossHouse.NONE);
             Due.reviewed(x, 0, 0, 240);
             Due.reviewed(x, 1, 2, 241);
+        }
+    }
+
+    private static void fullHouseComesBack() {
+        GlossHouse x = new GlossHouse();
+        Due.twoHands(x);
+        for (int i = 0; i < 8; i++) {
+            Due.piece(x, 0, i, i, i, i, i, i, i, i + 20);
+        }
+        x.turn();
+        for (int i = 0; i < 24; i++) {
+            Due.reviewed(x, i % 8, i / 8, 200, 201, 202, 203, 204, 205, 206, 207, 208, 210 + i);
+        }
+        x.keep();
+        Due.piece(x, 0, 50);
+        x.turn();
+        Due.reviewed(x, 0, 0, 250);
+        due.is("back()", x.back(), 1);
+        due.is("many(0)", x.many(0), 8);
+        due.is("many(5)", x.many(5), 20);
+        due.is("many(7)", x.many(7), 24);
+        for (int i = 0; i < 8; i++) {
+            due.is("the last sign of piece " + i, x.of(i, 17), i + 20);
+            due.is("the last sign of its last text", x.text(i, 2, 19), 210 + 16 + i);
+        }
+        for (int k = 0; k < 20; k++) {
+            due.is("the last sign of the text of number " + k, x.memory(k, 29), 214 + k);
+            due.is("and of its piece", x.memory(k, 17), (k + 4) % 8 + 20);
         }
     }
 
