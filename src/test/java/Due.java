@@ -1,3 +1,5 @@
+import java.util.List;
+
 /** What the tests share: it counts the answers that aren't as due, and puts pieces and texts together. */
 final class Due {
     static final int[] BEYOND = {Integer.MIN_VALUE, -1000, -2, -1, 1000, Integer.MAX_VALUE};
@@ -10,6 +12,22 @@ final class Due {
         if (got != want) {
             wrong++;
             System.out.println(call + " answered " + got + ", due is " + want);
+        }
+    }
+
+    void isNot(String call, int got, int refusal) {
+        asked++;
+        if (got == refusal) {
+            wrong++;
+            System.out.println(call + " answered " + got + ", which is not due");
+        }
+    }
+
+    void same(String what, List<Integer> got, List<Integer> want) {
+        asked++;
+        if (!got.equals(want)) {
+            wrong++;
+            System.out.println(what + " is " + got + ", due is " + want);
         }
     }
 
