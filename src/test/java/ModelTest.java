@@ -6,6 +6,7 @@ import java.util.Random;
 public final class ModelTest {
     private static final int RUNS = 700;
     private static final int CALLS = 512;
+    private static final int LONGEST_STEP = 75;
     private static final int TOLD = 20;
     private static final int[] ODD = {Integer.MIN_VALUE, Integer.MIN_VALUE + 9, -7, -1, 1 << 30, Integer.MAX_VALUE};
     private static final int[] SIGN_EDGES = {-1, 0, 99, 100, 103, 104, 199, 200, 299, 300};
@@ -42,22 +43,21 @@ public final class ModelTest {
     }
 
     private void go() {
-        if (random.nextInt(4) > 0) {
-            begin();
-        }
-        for (int i = 0; i < CALLS - 90 && !wrong; ) {
-            i += step();
+        int calls = random.nextInt(4) > 0 ? begin() : 0;
+        while (calls < CALLS - LONGEST_STEP && !wrong) {
+            calls += step();
         }
     }
 
-    private void begin() {
-        for (int i = 1 + random.nextInt(5); i > 0; i--) {
+    private int begin() {
+        int hands = 1 + random.nextInt(5);
+        for (int i = 0; i < hands; i++) {
             int tongues = 1 + random.nextInt(7);
             int hours = random.nextInt(21);
             int rate = 1 + random.nextInt(random.nextBoolean() ? 2 : 9);
             check("hand", house.hand(tongues, hours, rate), model.hand(tongues, hours, rate), tongues, hours, rate);
         }
-        newSource();
+        return hands + newSource();
     }
 
     /** Some calls that belong together, or one that may be any: how many calls. */

@@ -389,6 +389,22 @@ public final class SourceEdgesTest {
         rich.changesNothing(NONE, "from", 3);
         rich.changesNothing(0, "from", 0);
         full.changesNothing(NONE, "from", 7);
+        GlossHouse x = new GlossHouse();
+        for (int turn = 0; turn < 4; turn++) {
+            Due.piece(x, 0, 1, 2);
+            Due.piece(x, 0, 3, 4);
+            x.turn();
+        }
+        due.is("given one", x.from(1), 1);
+        for (int turn = 0; turn < 2; turn++) {
+            Due.piece(x, 0, 1, 2);
+            x.turn();
+            Due.piece(x, 0, 1, 2);
+            Due.piece(x, 0, 3, 4);
+            x.turn();
+            due.is("none, though others in its place were given one", x.from(1), NONE);
+            due.is("its story", x.story(1), 3);
+        }
     }
 
     /** "The place of the PIECE that a PIECE of THE SOURCE was given": from the last to the first and back. */

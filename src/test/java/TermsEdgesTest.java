@@ -25,6 +25,7 @@ public final class TermsEdgesTest {
         matchOfSeveral();
         matchOfNoneBehindAll();
         matchAtTheMost();
+        matchAfterOthers();
         textsTakenOver();
         textsOfThoseGivenNone();
         nextOneIsEmptyThen();
@@ -331,6 +332,30 @@ public final class TermsEdgesTest {
         }
         due.is("the greatest again", x.turn(), 64);
         from(x, 0, 1, 2, 3, 4, 5, 6, 7);
+    }
+
+    /** "THE MATCH costs least": those before it are nothing to it. */
+    private static void matchAfterOthers() {
+        GlossHouse x = Due.house(Due.row(1, 1, 1, 1, 1, 1, 1, 1));
+        Due.piece(x, 0, 2, 2, 2, 2, 2, 2, 2, 2);
+        due.is("a dear one", x.turn(), 8);
+        Due.piece(x, 0, 9);
+        Due.piece(x, 0, 2, 2, 2, 2, 2, 2, 2, 2);
+        due.is("a cheap one, the first has none", x.turn(), 1);
+        from(x, NONE, 0);
+        Due.piece(x, 0, 30, 31);
+        Due.piece(x, 0, 9);
+        Due.piece(x, 0, 2, 2, 2, 2, 2, 2, 2, 2);
+        due.is("and once more", x.turn(), 2);
+        from(x, NONE, 0, 1);
+        GlossHouse y = new GlossHouse();
+        y.keep();
+        Due.piece(y, 0, 1, 2, 3);
+        due.is("from nothing", y.turn(), 3);
+        y.back();
+        Due.piece(y, 0, 4, 5);
+        due.is("from nothing again", y.turn(), 2);
+        from(y, NONE);
     }
 
     /** A house with one piece, 1 2, whose text in tongue 0 is in that state. */

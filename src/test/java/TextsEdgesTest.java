@@ -408,6 +408,15 @@ public final class TextsEdgesTest {
         GlossHouse x = same.made();
         x.review(0, 0, 1);
         due.is("it is reviewed all the same", x.text(0, 0, 0), 2);
+        GlossHouse y = Due.house(Due.row(1));
+        Due.twoHands(y);
+        due.is("a text of ten", Due.reviewed(y, 0, 0, 200, 201, 202, 203, 204, 205, 206, 207, 208, 209), 1);
+        due.is("the same ten", Due.reviewed(y, 0, 0, 200, 201, 202, 203, 204, 205, 206, 207, 208, 209), 1);
+        due.is("another tenth", Due.reviewed(y, 0, 0, 200, 201, 202, 203, 204, 205, 206, 207, 208, 299), 2);
+        due.is("one", Due.reviewed(y, 0, 0, 200), 3);
+        Due.write(y, 0, 0, 0, 290, 291);
+        due.is("the same one, in place of a longer text", Due.reviewed(y, 0, 0, 200), 3);
+        due.is("the first two of the ten", Due.reviewed(y, 0, 0, 200, 201), 4);
     }
 
     /** "How many that has": 20 are the most. */

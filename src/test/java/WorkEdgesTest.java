@@ -34,6 +34,7 @@ public final class WorkEdgesTest {
         backStays();
         backLeavesTheRest();
         backToAFullHouse();
+        backToWhereTheyCameFrom();
         due.end();
     }
 
@@ -386,5 +387,39 @@ public final class WorkEdgesTest {
             x.back();
             due.same(part + " of a full house", Reading.of(part, x), Reading.of(part, full.made()));
         }
+    }
+
+    /** "THE SOURCE .. become what was kept": with from() and story() of each sort, on top of any other. */
+    private static void backToWhereTheyCameFrom() {
+        GlossHouse x = Due.house(Due.row(1, 2), Due.row(3, 4), Due.row(5, 6));
+        Due.piece(x, 0, 1, 2);
+        Due.piece(x, 0, 5, 6);
+        Due.piece(x, 0, 3, 9);
+        Due.piece(x, 0, 40);
+        x.turn();
+        x.keep();
+        int[] from = {0, 2, 1, NONE};
+        int[] story = {0, 1, 2, 3};
+        for (int shift = 0; shift < 4; shift++) {
+            int[][] rows = {{1, 2}, {5, 6}, {3, 9}, {40}};
+            for (int p = 0; p < 4; p++) {
+                Due.piece(x, 0, rows[(p + shift) % 4]);
+            }
+            x.turn();
+            x.back();
+            for (int p = 0; p < 4; p++) {
+                due.is("from(" + p + ") after back()", x.from(p), from[p]);
+                due.is("story(" + p + ") after back()", x.story(p), story[p]);
+            }
+        }
+        GlossHouse y = Due.house(Due.row(1, 2));
+        Due.piece(y, 0, 1, 3);
+        y.turn();
+        y.keep();
+        Due.piece(y, 0, 1, 3);
+        y.turn();
+        due.is("as it was", y.story(0), 0);
+        y.back();
+        due.is("changed, when it came back", y.story(0), 2);
     }
 }
