@@ -7,6 +7,7 @@ import java.nio.file.Files;
 import java.nio.file.Path;
 import java.util.Arrays;
 import java.util.List;
+import java.util.Random;
 import java.util.Set;
 import java.util.TreeSet;
 
@@ -32,6 +33,7 @@ public final class RulesTest {
         namesOfOwnMethods();
         classesInside();
         source();
+        noCallThrows();
         System.out.println(wrong == 0 ? "the rules are kept" : wrong + " rules are broken");
         if (wrong != 0) {
             System.exit(1);
@@ -126,5 +128,32 @@ public final class RulesTest {
         }
         due("a lambda or a method reference", code.contains("->") || code.contains("::"), false);
         due("signs beyond 127", code.chars().anyMatch(c -> c > 127), false);
+    }
+
+    /** "No call may ever throw", for any arguments in any state: also when an object has had its 512 calls. */
+    private static void noCallThrows() {
+        int[] odd = {Integer.MIN_VALUE, Integer.MIN_VALUE + 9, Integer.MIN_VALUE + 10, -1, 8, 20, 103, 104, 299, 300,
+            Integer.MAX_VALUE};
+        Random random = new Random(7);
+        Method[] calls = GlossHouse.class.getDeclaredMethods();
+        Arrays.sort(calls, (a, b) -> a.getName().compareTo(b.getName()));
+        for (int run = 0; run < 20; run++) {
+            GlossHouse x = new GlossHouse();
+            if (run % 2 == 1) {
+                Houses.full(x);
+            }
+            for (int i = 0; i < 3000; i++) {
+                Method call = calls[random.nextInt(calls.length)];
+                if (Modifier.isPublic(call.getModifiers())) {
+                    int[] arguments = new int[call.getParameterCount()];
+                    for (int a = 0; a < arguments.length; a++) {
+                        int sort = random.nextInt(6);
+                        arguments[a] = sort == 0 ? odd[random.nextInt(odd.length)]
+                                : sort == 1 ? random.nextInt() : sort == 2 ? random.nextInt(300) : random.nextInt(3);
+                    }
+                    Calls.ask(x, call.getName(), arguments);
+                }
+            }
+        }
     }
 }
