@@ -32,6 +32,7 @@ public final class RulesTest {
         constructors();
         namesOfOwnMethods();
         classesInside();
+        fieldsOfClasses();
         source();
         noCallThrows();
         System.out.println(wrong == 0 ? "the rules are kept" : wrong + " rules are broken");
@@ -116,6 +117,21 @@ public final class RulesTest {
                 due(f + ", if static, is final", !Modifier.isStatic(f.getModifiers())
                         || Modifier.isFinal(f.getModifiers()), true);
             }
+        }
+    }
+
+    /** "A class some twenty fields beside its constants", and none of them static but constants. */
+    private static void fieldsOfClasses() {
+        List<Class<?>> all = new java.util.ArrayList<>(Arrays.asList(GlossHouse.class.getDeclaredClasses()));
+        all.add(GlossHouse.class);
+        for (Class<?> one : all) {
+            int own = 0;
+            for (Field f : one.getDeclaredFields()) {
+                boolean isStatic = Modifier.isStatic(f.getModifiers());
+                own += isStatic ? 0 : 1;
+                due(f + " is static and no number", isStatic && !f.getType().isPrimitive(), false);
+            }
+            due(one + " has at most twenty fields", own <= 20, true);
         }
     }
 
